@@ -230,7 +230,7 @@ public final class PaperDolls {
 
     public int days() {
         wardrobe.findOutfits(doll);
-        return wardrobe.mostApart(0, 0, 0);
+        return wardrobe.mostApart();
     }
 
     public int spared() {
@@ -474,25 +474,15 @@ public final class PaperDolls {
     }
 
     private void setFraction(int good, int all) {
-        int divisor = commonDivisor(good, all);
-        if (divisor < 1) {
-            above = 0;
-            below = 1;
-        } else {
-            above = good / divisor;
-            below = all / divisor;
+        above = 0;
+        below = 1;
+        for (int divisor = all; divisor >= 1; divisor--) {
+            if (good % divisor == 0 && all % divisor == 0) {
+                above = good / divisor;
+                below = all / divisor;
+                return;
+            }
         }
-    }
-
-    private static int commonDivisor(int a, int b) {
-        int greater = Math.max(a, b);
-        int lesser = Math.min(a, b);
-        while (lesser > 0) {
-            int rest = greater % lesser;
-            greater = lesser;
-            lesser = rest;
-        }
-        return greater;
     }
 
     /** The KINDS of pieces: each is told by the one it stands under. */
@@ -543,8 +533,8 @@ public final class PaperDolls {
         static final int FREE = 5;
 
         static boolean allows(int kind, int one, int other) {
-            int a = Math.min(one, other);
-            int b = Math.max(one, other);
+            int a = one < other ? one : other;
+            int b = one < other ? other : one;
             boolean strict = b == a;
             boolean plain = strict || b == a + 1;
             switch (kind) {
@@ -770,19 +760,19 @@ public final class PaperDolls {
             }
         }
 
-        boolean mayPut(Wear wear, int i) {
-            if (wear.placeOf(i) != NONE || holdOf(wear, i) < 1) {
+        private boolean mayPut(Wear wear, int i) {
+            if (wear.placeOf(i) != NONE || Cloth.holds(kind[i], paper[i], wear.worn[i]) < 1) {
                 return false;
             }
             for (int place = 0; place < wear.onCount; place++) {
-                if (!match(i, wear.on[place])) {
+                if (!Taste.allows(childKind, colour[i], colour[wear.on[place]])) {
                     return false;
                 }
             }
             return true;
         }
 
-        boolean mayTake(Wear wear, int i) {
+        private boolean mayTake(Wear wear, int i) {
             int place = wear.placeOf(i);
             if (place == NONE) {
                 return false;
@@ -972,11 +962,11 @@ public final class PaperDolls {
         }
 
         private boolean isWord(String word) {
-            if (stop - start != word.length()) {
+            if (stop > length || stop - start != word.length()) {
                 return false;
             }
             for (int i = 0; i < word.length(); i++) {
-                if (byteAt(start + i) != word.charAt(i)) {
+                if (bytes[start + i] != word.charAt(i)) {
                     return false;
                 }
             }
@@ -985,45 +975,37 @@ public final class PaperDolls {
 
         private void advance() {
             start = stop;
-            while (start < length && byteAt(start) == ' ') {
+            while (start < length && bytes[start] == ' ') {
                 start++;
             }
             stop = start;
             if (start >= length) {
                 token = END;
-            } else if (isLetter(start)) {
-                token = WORD;
-                while (stop < length && isLetter(stop)) {
-                    stop++;
-                }
-            } else if (isFigure(start)) {
+            } else if (within(bytes[start], 'a', 'z')) {
+                advanceOverWord();
+            } else if (within(bytes[start], '0', '9')) {
                 advanceOverNumber();
             } else {
-                token = byteAt(start) == ';' ? SEMICOLON : OTHER;
+                token = bytes[start] == ';' ? SEMICOLON : OTHER;
                 stop = start + 1;
             }
         }
 
+        private void advanceOverWord() {
+            while (stop < length && within(bytes[stop], 'a', 'z')) {
+                stop++;
+            }
+            token = WORD;
+        }
+
         private void advanceOverNumber() {
             number = 0;
-            while (stop < length && isFigure(stop)) {
-                // Three figures are no number, so what more of them come to is never used.
-                number = (number * 10 + byteAt(stop) - '0') % 1000;
+            while (stop < length && within(bytes[stop], '0', '9')) {
+                // Three figures or more are no number: what they come to is never used.
+                number = number * 10 + bytes[stop] - '0';
                 stop++;
             }
             token = stop - start <= 2 ? NUMBER : OTHER;
-        }
-
-        private int byteAt(int at) {
-            return at >= 0 && at < length ? bytes[at] : -1;
-        }
-
-        private boolean isLetter(int at) {
-            return within(byteAt(at), 'a', 'z');
-        }
-
-        private boolean isFigure(int at) {
-            return within(byteAt(at), '0', '9');
         }
     }
 
@@ -1081,13 +1063,17 @@ public final class PaperDolls {
             return all;
         }
 
-        /** The most outfits, from the k-th on, that share no piece with one another or with those taken. */
-        int mostApart(int k, int taken, int depth) {
+        /** The most outfits of which no two have a piece in common. */
+        int mostApart() {
+            return mostApartFrom(0, 0, 0);
+        }
+
+        private int mostApartFrom(int k, int taken, int depth) {
             int most = 0;
             if (depth < MOST_PIECES) {
                 for (int next = k; next < found; next++) {
                     if ((sets[next] & taken) == 0) {
-                        most = Math.max(most, 1 + mostApart(next + 1, taken | sets[next], depth + 1));
+                        most = Math.max(most, 1 + mostApartFrom(next + 1, taken | sets[next], depth + 1));
                     }
                 }
             }
