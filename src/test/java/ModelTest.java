@@ -26,6 +26,7 @@ public final class ModelTest {
         final Random random;
         final PaperDolls doll = new PaperDolls();
         final Model model = new Model();
+        int hiddenKind = 0;
 
         Run(int seed) {
             this.seed = seed;
@@ -171,6 +172,9 @@ public final class ModelTest {
             int a = number(0, 3);
             int b = number(0, 3);
             int went = number(0, 1);
+            if (random.nextInt(8) > 0 && a <= b && went >= 0 && went <= 1) {
+                went = Model.go(hiddenKind, a, b) ? 1 : 0;
+            }
             check("note", doll.note(a, b, went), model.note(a, b, went));
         }
 
@@ -178,14 +182,15 @@ public final class ModelTest {
             int p = number(1, 9);
             int n = random.nextBoolean() ? number(0, 99) : number(0, 9);
             int x = number(-99, 40);
-            if (random.nextInt(3) > 0) {
-                x = Model.hold(random.nextInt(6), p, n);
+            if (random.nextInt(8) > 0) {
+                x = Model.hold(hiddenKind, p, n);
             }
             check("mark", doll.mark(i, p, n, x), model.mark(i, p, n, x));
         }
 
         void forget() {
             int what = number(0, 1);
+            hiddenKind = random.nextInt(6);
             check("forget", doll.forget(what), model.forget(what));
         }
 

@@ -166,6 +166,10 @@ public final class PromisesTest {
         due(3, "child 3", x.child(3), 1);
         due(3, "notes stay", x.count(7), 1);
         due(3, "marks stay", x.count(8), 1);
+        int[] kinds = {0, 5, 4, 2, 1, 3};
+        for (int n = 0; n < 6; n++) {
+            due(3, "each kind", x.child(kinds[n]), n == 0 ? 3 : kinds[n - 1]);
+        }
     }
 
     private static void piece() {
@@ -283,6 +287,10 @@ public final class PromisesTest {
         fault("doll 0 piece", 7);
         fault("doll 0;doll 0;", 7);
         fault("doll 0;;", 7);
+        fault("doll 0.", 6);
+        fault("doll 0 000", 7);
+        fault("foll 0;", 0);
+        fault("doll 0;xn 0;", 7);
         fault("doll 0;p", 7);
         fault("doll 0;\tpiece 0 0 1;", 7);
         fault("doll\t0;", 4);
@@ -310,6 +318,14 @@ public final class PromisesTest {
         fault("doll 0;piece 0 0 9;on 0;mend 0;mend 0;", 36);
         fault("doll 0;piece 0 0 9;piece 0 0 9;piece 0 0 9;piece 0 0 9;piece 0 0 9;piece 0 0 9;"
             + "piece 0 0 9;piece 0 0 9;piece x", 103);
+        // What stood behind the text before it was emptied is not read.
+        PaperDolls x = new PaperDolls();
+        readText(x, "dolls 0;");
+        due(7, "a word at the end", readText(x, "doll"), -204);
+        readText(x, "doll 55;");
+        due(7, "a number at the end", readText(x, "doll 5"), -206);
+        readText(x, "doll 0   ;");
+        due(7, "no blank at the end", readText(x, "doll 0"), -206);
     }
 
     private static void puts() {
@@ -507,6 +523,7 @@ public final class PromisesTest {
         due(17, "none", new PaperDolls().outfits(-1), 0);
         due(17, "one that does not hold", made(0, 5, 0, 1, 3, 0, 9).outfits(-1), 0);
         due(17, "one that holds by 2", made(0, 5, 0, 2, 3, 0, 9).outfits(-1), 1);
+        due(17, "a coat that holds by 1", made(0, 1, 0, 2, 3, 0, 1, 4, 0, 1).outfits(-1), 1);
         due(17, "gaudy, alike", made(2, 5, 0, 9, 3, 0, 9).outfits(-1), 0);
         due(17, "gaudy, unlike", made(2, 5, 0, 9, 3, 2, 9).outfits(-1), 1);
         due(17, "wintry, red", made(4, 5, 3, 9, 3, 3, 9).outfits(-1), 0);
@@ -540,6 +557,7 @@ public final class PromisesTest {
         due(20, "no pieces", new PaperDolls().spared(), 0);
         due(20, "no outfits", made(0, 0, 0, 9, 1, 0, 9).spared(), 3);
         due(20, "the shirt", made(0, 0, 0, 9, 2, 0, 9, 4, 0, 9).spared(), 1);
+        due(20, "of two outfits", made(1, 2, 0, 9, 4, 0, 9, 2, 1, 9, 4, 1, 9, 3, 0, 9).spared(), 16);
         due(20, "of another colour, too", made(1, 0, 0, 9, 2, 0, 9, 4, 0, 9, 3, 1, 9).spared(), 9);
     }
 
@@ -682,6 +700,11 @@ public final class PromisesTest {
         due(26, "strict alone", x.look(), 0);
         x.note(0, 0, 0);
         due(26, "none", x.look(), NONE);
+        x.forget(0);
+        x.note(0, 1, 1);
+        x.note(0, 2, 0);
+        // Plain and wintry are parted by 23 and 33 alone.
+        due(26, "plain, wintry", x.look(), 23);
     }
 
     private static void kinds() {
@@ -725,6 +748,11 @@ public final class PromisesTest {
         x.forget(1);
         x.mark(1, 1, 0, 0);
         due(28, "of paper 5", x.ask(1), 0);
+        // Shirt and suit of paper 2 hold alike until n = 3.
+        PaperDolls y = made(0, 0, 0, 2);
+        y.mark(0, 2, 0, 2);
+        due(28, "shirt, suit", y.kinds(0), 1 + 32);
+        due(28, "shirt, suit", y.ask(0), 3);
     }
 
     private static void two() {
@@ -752,6 +780,19 @@ public final class PromisesTest {
         due(29, "hat, suit", z.two(0), 12);
         due(29, "suit, hat", z.two(1), 21);
         due(29, "nothing is changed", z.count(2), 0);
+        // Beside a coat that can not be put on the shirt gets 1, the other such coat 0.
+        PaperDolls v = made(0, 0, 0, 9, 1, 0, 1, 1, 0, 1);
+        due(29, "four", v.two(-1), 4);
+        int[] resting = {1, 2, 10, 20};
+        for (int k = 0; k < 4; k++) {
+            due(29, "the k-th", v.two(k), resting[k]);
+        }
+        due(29, "no fifth", v.two(4), -5);
+        // The hat goes with neither the shirt nor the boots.
+        PaperDolls w = made(1, 0, 0, 9, 3, 1, 9, 4, 0, 9);
+        due(29, "two", w.two(-1), 2);
+        due(29, "shirt, boots", w.two(0), 2);
+        due(29, "boots, shirt", w.two(1), 20);
     }
 
     private static void luck() {
@@ -810,7 +851,18 @@ public final class PromisesTest {
         y.puts(2);
         due(31, "mended", y.evenings(0, 3), 3);
         due(31, "nothing is changed", y.of(0, 3), 1);
-        due(31, "sixty are as told", y.evenings(0, 60) >= 0 ? 1 : 0, 1);
+        // By seed 0 the pieces are 0, 4, 4: the cloak on, the boots on, the boots off.
+        PaperDolls z = made(0, 2, 0, 9, 0, 0, 9, 0, 0, 9, 0, 0, 9, 4, 0, 1);
+        due(31, "cloak", z.evenings(0, 1), 0);
+        due(31, "cloak, boots", z.evenings(0, 2), 1);
+        due(31, "boots off", z.evenings(0, 3), 1);
+        for (int n = 0; n < 3; n++) {
+            z.puts(4);
+            z.takes(4);
+        }
+        due(31, "the boots are worn out", z.of(4, 6), -1);
+        due(31, "cloak, boots mended", z.evenings(0, 2), 0);
+        due(31, "boots on", z.evenings(0, 3), 1);
     }
 
     private static void part() {
@@ -847,6 +899,35 @@ public final class PromisesTest {
         x.piece(0, 0, 1);
         x.from(1);
         due(33, "no pieces", x.count(0), 0);
+        imageOfAll();
+    }
+
+    private static void imageOfAll() {
+        PaperDolls x = made(0, 0, 0, 9, 3, 0, 9);
+        x.note(0, 3, 1);
+        x.mark(1, 9, 0, 9);
+        x.puts(0);
+        x.takes(0);
+        x.puts(1);
+        x.image(0);
+        long was = x.digest();
+        x.forget(0);
+        x.note(1, 1, 0);
+        x.forget(1);
+        x.mark(0, 2, 3, 4);
+        for (int n = 0; n < 5; n++) {
+            x.puts(0);
+            x.takes(0);
+        }
+        due(33, "from", x.from(0), 1);
+        due(33, "notes, marks and all as they were", x.digest(), was);
+        due(33, "three to undo", x.count(9), 3);
+        due(33, "undo", x.undo(), 2);
+        due(33, "neither is on", x.count(1), 0);
+        due(33, "undo", x.undo(), 1);
+        due(33, "the shirt is on", x.of(0, 4), 0);
+        due(33, "undo", x.undo(), 0);
+        due(33, "not worn", x.count(5), 0);
     }
 
     private static void from() {
