@@ -367,6 +367,12 @@ public final class EdgesOfGoingTest {
         Bench.answered(21, "one", one, x -> x.few(-1), 1);
         Bench.answered(21, "one: which", one, x -> x.few(0), 1);
         Bench.answered(21, "one: no second", one, x -> x.few(1), NOT_SO_MANY);
+        Bench.Making least = on(new int[] {1}, 0, 4, 0, 9, 2, 0, 9);
+        Bench.answered(21, "one: PIECE 0", least, x -> x.few(-1), 1);
+        Bench.answered(21, "one: PIECE 0", least, x -> x.few(0), 0);
+        Bench.answered(21, "one: PIECE 0, no second", least, x -> x.few(1), NOT_SO_MANY);
+        Bench.Making last = on(new int[] {7}, 0, 0, 0, 9, 0, 0, 9, 0, 0, 9, 0, 0, 9, 0, 0, 9, 0, 0, 9, 4, 0, 9, 2, 0, 9);
+        Bench.answered(21, "one: PIECE 6 of eight", last, x -> x.few(0), 6);
         Bench.Making two = () -> Bench.made(0, 2, 0, 9, 4, 0, 9);
         Bench.answered(21, "two", two, x -> x.few(-1), 2);
         Bench.answered(21, "two: the first", two, x -> x.few(0), 0);

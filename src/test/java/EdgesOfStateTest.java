@@ -131,7 +131,7 @@ public final class EdgesOfStateTest {
         }
         y.image(1);
         long was = y.digest();
-        y.doll(0);
+        stir(y);
         y.from(1);
         Bench.due(33, "the most of all", y.digest(), was);
     }

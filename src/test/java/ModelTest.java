@@ -9,6 +9,7 @@ import java.util.regex.Pattern;
 /** Random runs, by fixed seeds, of PaperDolls beside a slow model that follows the document's words one by one. */
 public final class ModelTest {
     private static final int RUNS = 1500;
+    // An object is used for 512 calls; what is asked at once is never more than twelve of them.
     private static final int CALLS = 500;
 
     private static int wrong = 0;
@@ -27,6 +28,7 @@ public final class ModelTest {
         final PaperDolls doll = new PaperDolls();
         final Model model = new Model();
         int hiddenKind = 0;
+        int calls = 0;
 
         Run(int seed) {
             this.seed = seed;
@@ -34,22 +36,19 @@ public final class ModelTest {
         }
 
         void go() {
-            int calls = 0;
             while (calls < CALLS) {
                 if (random.nextInt(60) == 0) {
-                    calls += tellText(CALLS - calls);
+                    tellText();
                 } else {
-                    oneCall();
-                    calls++;
+                    someCalls();
                 }
             }
         }
 
-        int tellText(int room) {
+        void tellText() {
             String text = TextMaker.make(random);
-            if (text.length() + 2 > room) {
-                oneCall();
-                return 1;
+            if (text.length() + 3 > CALLS - calls) {
+                return;
             }
             check("clear", doll.clear(), model.clear());
             for (int i = 0; i < text.length(); i++) {
@@ -57,10 +56,10 @@ public final class ModelTest {
             }
             check("read \"" + text + "\"", doll.read(), model.read());
             check("digest", doll.digest(), model.digest());
-            return text.length() + 3;
         }
 
         void check(String call, long got, long want) {
+            calls++;
             if (got != want) {
                 wrong++;
                 System.out.println("seed " + seed + ": " + call + " answered " + got + ", the model says " + want);
@@ -80,7 +79,7 @@ public final class ModelTest {
             return number(0, Math.max(0, model.now.pieces.size() - 1));
         }
 
-        void oneCall() {
+        void someCalls() {
             int what = random.nextInt(100);
             if (what < 34) {
                 moveCall(what);
